@@ -2,7 +2,8 @@ import java.util.Random;
 
 /** Runs of calls by lots (always the same ones) on the class and on the slow model: both answer alike. */
 public final class ModelTest {
-    private static final int CALLS = 512;
+    /** With what stands ahead of them and the keys typed anew, a run stays under 512 calls. */
+    private static final int STEPS = 300;
 
     private final Random lots;
     private final SameWrong x = new SameWrong();
@@ -18,7 +19,7 @@ public final class ModelTest {
     }
 
     public static void main(String[] args) {
-        int runs = args.length > 0 ? Integer.parseInt(args[0]) : 250;
+        int runs = args.length > 0 ? Integer.parseInt(args[0]) : 300;
         for (int run = 0; run < runs; run++) {
             new ModelTest(run).play(run);
         }
@@ -27,7 +28,7 @@ public final class ModelTest {
 
     private void play(int run) {
         prepare(run);
-        for (int i = 0; i < CALLS - 130; i++) {
+        for (int i = 0; i < STEPS; i++) {
             step();
             Check.due("run " + run + ": " + call, got, want);
         }
