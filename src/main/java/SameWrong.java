@@ -200,13 +200,11 @@ public final class SameWrong {
     // ---- seats
 
     public int seats(int what) {
-        if (what == 0) {
-            return pairs.besideInAll();
+        switch (what) {
+            case 0: return pairs.besideInAll();
+            case 1: return deals.millionths();
+            default: return BAD;
         }
-        if (what != 1) {
-            return BAD;
-        }
-        return room.size > MOST_DEALT ? FULL : deals.millionths();
     }
 
     public int sources() {

@@ -273,8 +273,8 @@ public final class PromisesTest {
         x.sheet(0, 0, 0);
         due("read: no items", x.read(0, 0, 5), 0);
         due("read: nothing told", x.count(3), 5);
-        while (x.count(3) < 148) {
-            x.answer(0, 0, 1, 5);
+        for (int i = 6; i <= 148; i++) {
+            due("read: answer " + i, x.answer(0, 0, 1, 5), i);
         }
         x.sheet(1, 2, 4);
         due("read: up to FULL", x.read(1, 0, 6), 2);
