@@ -107,6 +107,8 @@ public final class KeyBoundsTest {
         SameWrong x = new SameWrong();
         first.lose(0);
         first.lose(0);
+        due("the new one's finding", x.count(8), 0);
+        due("the full one's finding", first.count(8), 1);
         Check.alike("a new one beside a full one", Look.at(x), Look.at(new SameWrong()));
         due("the full one's tellings", first.count(3), 150);
     }

@@ -248,6 +248,24 @@ public final class MarkBoundsTest {
         isOddFrom(x, 16);
     }
 
+    /** Chances just above a thousandth are more than it, great ones, too. */
+    static void promise14OddByThousandthsOfGreatChances() {
+        SameWrong x = two("111", "222", "233");
+        chance("578.125 thousandths", x, 0, 1, 37, 64);
+        isOddFrom(x, 579);
+        x = two("1111", "2345", "2222");
+        chance("683.6 thousandths", x, 0, 1, 175, 256);
+        isOddFrom(x, 684);
+        x = two("1111111", "2345234", "2222222");
+        due("shared", x.shared(0, 1, 0), 2);
+        x.answer(0, 4, 3, 0);
+        x.answer(0, 5, 3, 0);
+        due("shared", x.shared(0, 1, 0), 1);
+        // 1 less 3^7 by 4^7
+        chance("866.5 thousandths", x, 0, 1, 14197, 16384);
+        isOddFrom(x, 867);
+    }
+
     private static void isOddFrom(SameWrong x, int limit) {
         x.set(2, limit - 1);
         due("by " + (limit - 1), x.shared(0, 1, 2), 0);

@@ -409,6 +409,27 @@ public final class QuestionBoundsTest {
         parts("two of two less one of two", pupils("11", "11", "11", "10", "00"), 0, 1, 2);
     }
 
+    /** Five PUPILS with all RESTS from 0 to 2 (to question 3), each of them alone having it. */
+    static void promise29PartsInEveryOrderOfRests() {
+        String[] byRest = {"000", "100", "110"};
+        for (int code = 0; code < 243; code++) {
+            int[] rests = {code % 3, code / 3 % 3, code / 9 % 3, code / 27 % 3, code / 81};
+            SameWrong x = Check.test("1111");
+            for (int p = 0; p < 5; p++) {
+                Check.sits(x, 0, p, byRest[rests[p]]);
+            }
+            for (int p = 0; p < 5; p++) {
+                int ahead = 0;
+                for (int other = 0; other < 5; other++) {
+                    ahead += rests[other] > rests[p] || rests[other] == rests[p] && other < p ? 1 : 0;
+                }
+                x.answer(p, 3, 1, 0);
+                parts("rests by code " + code + ", " + p, x, 3, ahead < 2 ? 1 : ahead > 2 ? -1 : 0, ahead == 2 ? 1 : 2);
+                x.answer(p, 3, 0, 0);
+            }
+        }
+    }
+
     /** "by REST": MARK without that QUESTION; "of like ones lesser numbers first". */
     static void promise29PartsByRestThenByNumber() {
         // MARKS are 1, 1: by REST to question 0 the second is better, to question 1 the first

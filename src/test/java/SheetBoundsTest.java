@@ -664,6 +664,21 @@ public final class SheetBoundsTest {
         due("ten alike", x.digest(), digestByCalls(x));
     }
 
+    /** "gains(1) above, below": of PUPIL 0 alone, neither of no one nor of 0 and 1. */
+    static void promise37DigestWithGainsOfTheFirst() {
+        SameWrong x = Check.test("1111");
+        x.pupil(0, 0);
+        x.pupil(3, 4);
+        for (String answers : new String[] {"2222", "1113"}) {
+            Check.tells(x, 0, answers, 0);
+            Check.tells(x, 1, answers, 0);
+        }
+        // of eight six are gains, four are drawn, three or more: (20 * 2 + 15) of 70
+        due("gains above", x.gains(1, 0), 11);
+        due("gains below", x.gains(1, 1), 14);
+        due("digest", x.digest(), digestByCalls(x));
+    }
+
     /** "gains(1) above, below (as it is told)": FULL, too. */
     static void promise37DigestWithFullGains() {
         SameWrong x = Check.test("1");
